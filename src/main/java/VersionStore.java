@@ -108,7 +108,7 @@ public final class VersionStore {
     }
 
     public void tidy() {
-        // Nothing outlives its transaction here: begin makes the row and the sets anew.
+        // Nothing piles up that could be tidied: begin makes a row and its sets anew.
     }
 
     public int open() {
